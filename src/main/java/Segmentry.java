@@ -826,9 +826,7 @@ public final class Segmentry {
         private final int[] rests = new int[MOST_ENTRIES + 1];
         // For each number of passes done: the places from which the loop and what is behind it can match.
         private final int[] afters = new int[MOST_TIMES + 1];
-        // For each item of a pass: the places from which the pass can go on there, without a segment yet ..
-        private final int[] fresh = new int[MOST_ITEMS + 1];
-        // .. and with one.
+        // For each item of a pass that has a segment: the places from which the pass can go on with the item.
         private final int[] begun = new int[MOST_ITEMS + 1];
         private int reached;
 
@@ -863,10 +861,10 @@ public final class Segmentry {
 
         /**
          * How many of the first segments could begin a body that matches. Any division that was begun
-         * can be completed by more segments, so it is enough to see how far one can come.
+         * can be completed by more segments, so it is enough to see how far one can come. Relies on
+         * what canDivide has found, too.
          */
         int viableCount(Message message) {
-            findMarks(message);
             reached = 1;
             int places = 1;
             for (int number = 0; number < schema.entryCount(); number++) {
@@ -903,18 +901,19 @@ public final class Segmentry {
             }
         }
 
-        /** The places from which one more pass can lead to the targets; fills fresh and begun for it. */
+        /** The places from which one more pass can lead to the targets; fills begun for this pass. */
         private int placesBeforePass(Entry entry, int targets) {
-            fresh[entry.end] = 0;
+            // As begun is, but for a pass without a segment, which can't end.
+            int fresh = 0;
             begun[entry.end] = targets;
             for (int number = entry.end - 1; number >= entry.first; number--) {
                 Item item = schema.itemAt(number);
                 int some = placesBeforeItem(number, Math.max(item.least, 1), item.most, begun[number + 1]);
                 boolean canBeNone = item.least == 0;
                 begun[number] = canBeNone ? some | begun[number + 1] : some;
-                fresh[number] = canBeNone ? some | fresh[number + 1] : some;
+                fresh = canBeNone ? some | fresh : some;
             }
-            return fresh[entry.first];
+            return fresh;
         }
 
         private int placesBeforeItem(int item, int least, int most, int targets) {
@@ -929,11 +928,14 @@ public final class Segmentry {
             return found;
         }
 
-        /** Relies on fresh and begun as they were filled for this very pass. */
+        /**
+         * Relies on begun as it was filled for this very pass. As the pass can have a segment, it gets one
+         * where each item takes as many as it can.
+         */
         private int dividePass(Message message, Entry entry, int pass, int start) {
             int place = start;
             for (int item = entry.first; item < entry.end; item++) {
-                int times = greatestTimes(item, place, place > start);
+                int times = greatestTimes(item, place);
                 for (int number = place; number < place + times; number++) {
                     message.bodyAt(number).assign(item, entry.isLoop ? pass : 0);
                 }
@@ -942,12 +944,11 @@ public final class Segmentry {
             return place;
         }
 
-        private int greatestTimes(int number, int place, boolean hasBegun) {
+        private int greatestTimes(int number, int place) {
             Item item = schema.itemAt(number);
             int greatest = 0;
             for (int times = 0; times <= item.most; times++) {
-                int targets = hasBegun || times > 0 ? begun[number + 1] : fresh[number + 1];
-                if (times >= item.least && contains(targets, place + times)) {
+                if (times >= item.least && contains(begun[number + 1], place + times)) {
                     greatest = times;
                 }
                 if (!contains(marked[number], place + times)) {

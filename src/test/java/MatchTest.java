@@ -87,6 +87,10 @@ final class MatchTest {
         divides("(11 A01 B01 C01)", "B", "B11");
         divides("(11 A01 B01 C01)", "C", "C21");
         refuses("(11 A01 B01 C01)", "CA", 11, 1);
+        refuses("(22 A01) B01", "AB", 11, 1);
+        refuses("(22 A01 B01) C01", "AC", 11, 1);
+        divides("(22 A01 B01) B01 C01", "ABBC", "A01,B11,B12,C30");
+        divides("(22 A01 B01) B01 C01", "ABC", "A01,B12,C30");
     }
 
     private static void longestBeginning() {
@@ -98,7 +102,7 @@ final class MatchTest {
         // One way to divide gets stuck, another one goes on.
         refuses("A02 A01 B11 C11", "AAAB", 12, 4);
         refuses("(09 A11 B11) A11 C11", "ABABA", 12, 5);
-        refuses("(09 A11 B11) A11 C11", "ABABAC'D".replace("'", ""), 11, 6);
+        refuses("(09 A11 B11) A11 C11", "ABABACD", 11, 6);
         refuses("(09 A11 B11) A11 C11", "ABABBC", 11, 4);
         refuses("(22 A33) B11", "AAAAA", 12, 5);
         refuses("(22 A33) B11", "AAAAB", 11, 4);

@@ -118,12 +118,16 @@ final class RuleTest {
         Check.read(x, Check.message(2, "A+1+?+'A+2++'"));
         x.write();
         Check.due("a condition on a plus sign", Check.written(x), "H+2'B+1'T+3+2'");
+        x.setCondition(0, 1, ' ');
+        Check.read(x, Check.message(3, "A'A+1'A+1+'A+1++ 'A+2+ '"));
+        x.write();
+        Check.due("a condition on a blank", Check.written(x), "H+3'B+2'T+3+3'");
         // An element that a former segment had is none of this one.
         x.setCondition(0, 1, 'x');
-        Check.read(x, Check.message(3, "A+1+x'"));
-        Check.read(x, Check.message(4, "A+1+y'"));
-        Check.read(x, Check.message(5, "A+1'"));
+        Check.read(x, Check.message(4, "A+1+x'"));
+        Check.read(x, Check.message(5, "A+1+y'"));
+        Check.read(x, Check.message(6, "A+1'"));
         x.write();
-        Check.due("a condition on an element that is gone", Check.written(x), "H+3'T+2+3'");
+        Check.due("a condition on an element that is gone", Check.written(x), "H+4'T+2+4'");
     }
 }

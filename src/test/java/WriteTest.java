@@ -7,6 +7,7 @@ final class WriteTest {
         segmentLimit();
         letterLimit();
         controlNumbers();
+        mostMessages();
         letters();
         feedWritten();
         readAgain();
@@ -105,7 +106,6 @@ final class WriteTest {
         x.addRule(1, 'B');
         String longest = "A" + Check.repeat("+" + Check.repeat("?+", 8), 5) + "'";
         String text = Check.message(1, longest + longest + longest + "A+12345678+12345678+1234++'B'");
-        text = text.replaceAll("T.*", "T+7+1'");
         Check.due("length of the text", text.length(), 300);
         Check.due("a message of 300 letters", Check.read(x, text), "");
         Check.due("write of 300 letters", x.write(), 300);
@@ -131,6 +131,20 @@ final class WriteTest {
                 Check.due("the message " + number, Check.written(x), want);
             }
         }
+    }
+
+    /** No object is promised to answer so many calls, but the limit that the document names stands. */
+    private static void mostMessages() {
+        Segmentry x = new Segmentry();
+        Check.read(x, "H+1'T+2+1'");
+        for (int number = 1; number < 9999; number++) {
+            x.write();
+        }
+        Check.due("the message 9998", Check.written(x), "H+9998'T+2+9998'");
+        x.write();
+        Check.due("the message 9999", Check.written(x), "H+9999'T+2+9999'");
+        Check.badState("the message 10000", () -> x.write());
+        Check.due("what is written then", Check.written(x), "H+9999'T+2+9999'");
     }
 
     private static void letters() {
