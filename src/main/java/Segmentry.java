@@ -709,7 +709,7 @@ public final class Segmentry {
         private void split(Sheet text, Message message) {
             message.wipe();
             int place = 0;
-            while (place < text.count() && message.count() < MOST_SEGMENTS) {
+            for (int number = 0; number < MOST_SEGMENTS && place < text.count(); number++) {
                 int end = segmentEnd(text, place);
                 if (end >= text.count()) {
                     faults.add(UNFINISHED, place);
@@ -729,7 +729,7 @@ public final class Segmentry {
             if (!isTag(segment.mark())) {
                 faults.add(BAD_TAG, start);
             }
-            while (stop < end && segment.elementCount() < MOST_ELEMENTS) {
+            for (int element = 0; element < MOST_ELEMENTS && stop < end; element++) {
                 int from = stop + 1;
                 stop = partEnd(text, from, end);
                 takeElement(text, from, stop, segment);

@@ -1,3 +1,5 @@
+import java.lang.reflect.Field;
+
 /**
  * A translator for a test: it has the same calls, and counts them. Nothing is promised about an object
  * after its 512th call, so a test that asks for more is wrong itself, and ends.
@@ -18,6 +20,20 @@ final class Run {
 
     int calls() {
         return calls;
+    }
+
+    /**
+     * Sets how many messages the object has written: no 512 calls can write as many as the document
+     * allows, so the limit can't be seen from outside.
+     */
+    void setWritten(int messages) {
+        try {
+            Field field = Segmentry.class.getDeclaredField("messagesWritten");
+            field.setAccessible(true);
+            field.setInt(x, messages);
+        } catch (ReflectiveOperationException e) {
+            throw new AssertionError(e);
+        }
     }
 
     int addItem(char tag, int least, int most) {

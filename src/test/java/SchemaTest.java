@@ -18,6 +18,7 @@ final class SchemaTest {
         timesOfItem();
         addItemReturns();
         tenItems();
+        tenLoops();
         openLoop();
         timesOfLoop();
         openLoopTwice();
@@ -239,15 +240,33 @@ final class SchemaTest {
         Check.badState("one more item in a loop", () -> y.addItem('C', 0, 1));
         Check.badState("closing the loop without items", () -> y.closeLoop());
         Check.due("items in loops", y.items(), 10);
-        // Ten loops of one item each.
-        Run z = new Run();
+    }
+
+    /** Ten items may stand in ten loops, and one more loop may be open behind them, which can't be closed. */
+    private static void tenLoops() {
+        Run x = new Run();
         for (int loop = 0; loop < 10; loop++) {
-            z.openLoop(1, 1);
-            Check.due("an item of its own loop", z.addItem((char) ('U' + loop % 3), 1, 1), loop);
-            z.closeLoop();
+            x.openLoop(1, 1 + loop % 9);
+            Check.due("an item of its own loop", x.addItem((char) ('U' + loop % 3), 1, 1), loop);
+            Check.due("closeLoop", x.closeLoop(), 1);
         }
-        Check.accepts(z, Check.message(1, Check.body("UVWUVWUVWU")));
-        Check.due("the division", Check.division(z), "U01,V11,W21,U31,V41,W51,U61,V71,W81,U91");
+        Check.accepts(x, Check.message(1, Check.body("UVWUVWUVWWU")));
+        Check.due("the division", Check.division(x), "U01,V11,W21,U31,V41,W51,U61,V71,W81,W82,U91");
+        x.openLoop(1, 1);
+        Check.badState("one more item in the loop behind them", () -> x.addItem('A', 1, 1));
+        Check.badState("closing the loop behind them", () -> x.closeLoop());
+        Check.badState("one more loop in it", () -> x.openLoop(1, 1));
+        Check.badState("reading with it", () -> x.read());
+        x.clear();
+        Check.due("read after clear", Check.read(x, Check.message(2, "")), "");
+        // Ten items in no loop, of which each takes its own segments.
+        Run y = new Run();
+        for (int item = 0; item < 10; item++) {
+            y.addItem('A', item < 8 ? 1 : 2, 2);
+        }
+        Check.due("a segment too few", Check.read(y, Check.message(1, Check.body("A".repeat(11)))), "12@26");
+        Check.accepts(y, Check.message(1, Check.body("A".repeat(12))));
+        Check.due("the division of the least", Check.division(y), "A00,A10,A20,A30,A40,A50,A60,A70,A80,A80,A90,A90");
     }
 
     private static void openLoop() {

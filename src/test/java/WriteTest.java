@@ -22,7 +22,7 @@ final class WriteTest {
         mostSegments();
         mostLetters();
         numberThatIsTooLong();
-        manyMessages();
+        mostMessages();
         written();
         letter();
         noSuchLetter();
@@ -345,8 +345,7 @@ final class WriteTest {
         Check.writes(x, "H+10'T+2+10'");
     }
 
-    /** All the messages that 512 calls can write; the 9999 of the document are more than that. */
-    private static void manyMessages() {
+    private static void mostMessages() {
         Check.says("Promise 24", "or 9999 messages were written");
         Run x = new Run();
         Check.accepts(x, "H+1'T+2+1'");
@@ -355,6 +354,14 @@ final class WriteTest {
             Check.due("write " + number, x.write(), 8 + 2 * digits);
         }
         Check.due("the message 480", Check.written(x), "H+480'T+2+480'");
+        Run y = new Run();
+        Check.accepts(y, "H+1'T+2+1'");
+        y.setWritten(9997);
+        Check.writes(y, "H+9998'T+2+9998'");
+        Check.writes(y, "H+9999'T+2+9999'");
+        Check.badState("the message 10000", () -> y.write());
+        Check.badState("the message 10000 again", () -> y.write());
+        Check.due("what was written stays", Check.written(y), "H+9999'T+2+9999'");
     }
 
     private static void written() {
