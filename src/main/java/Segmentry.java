@@ -837,12 +837,12 @@ public final class Segmentry {
         boolean canDivide(Message message) {
             findMarks(message);
             int last = schema.entryCount();
-            rests[last] = 1 << message.bodyCount();
+            put(rests, last, 1 << message.bodyCount());
             for (int number = last - 1; number >= 0; number--) {
-                findAfters(schema.entryAt(number), rests[number + 1]);
-                rests[number] = afters[0];
+                findAfters(schema.entryAt(number), at(rests, number + 1));
+                put(rests, number, at(afters, 0));
             }
-            return contains(rests[0], 0);
+            return contains(at(rests, 0), 0);
         }
 
         /** Divides the body in the first way that matches; relies on what canDivide has found for it. */
@@ -850,9 +850,9 @@ public final class Segmentry {
             int place = 0;
             for (int number = 0; number < schema.entryCount(); number++) {
                 Entry entry = schema.entryAt(number);
-                findAfters(entry, rests[number + 1]);
+                findAfters(entry, at(rests, number + 1));
                 int passes = 0;
-                while (passes < entry.most && contains(placesBeforePass(entry, afters[passes + 1]), place)) {
+                while (passes < entry.most && contains(placesBeforePass(entry, at(afters, passes + 1)), place)) {
                     passes++;
                     place = dividePass(message, entry, passes, place);
                 }
@@ -885,7 +885,17 @@ public final class Segmentry {
                         places |= 1 << place;
                     }
                 }
-                marked[item] = places;
+                put(marked, item, places);
+            }
+        }
+
+        private static int at(int[] sets, int number) {
+            return number >= 0 && number < sets.length ? sets[number] : 0;
+        }
+
+        private static void put(int[] sets, int number, int places) {
+            if (number >= 0 && number < sets.length) {
+                sets[number] = places;
             }
         }
 
@@ -894,10 +904,10 @@ public final class Segmentry {
         }
 
         private void findAfters(Entry entry, int rest) {
-            afters[entry.most] = rest;
+            put(afters, entry.most, rest);
             for (int passes = entry.most - 1; passes >= 0; passes--) {
-                int another = placesBeforePass(entry, afters[passes + 1]);
-                afters[passes] = passes >= entry.least ? another | rest : another;
+                int another = placesBeforePass(entry, at(afters, passes + 1));
+                put(afters, passes, passes >= entry.least ? another | rest : another);
             }
         }
 
@@ -905,25 +915,26 @@ public final class Segmentry {
         private int placesBeforePass(Entry entry, int targets) {
             // As begun is, but for a pass without a segment, which can't end.
             int fresh = 0;
-            begun[entry.end] = targets;
+            put(begun, entry.end, targets);
             for (int number = entry.end - 1; number >= entry.first; number--) {
                 Item item = schema.itemAt(number);
-                int some = placesBeforeItem(number, Math.max(item.least, 1), item.most, begun[number + 1]);
+                int behind = at(begun, number + 1);
+                int some = placesBeforeItem(at(marked, number), Math.max(item.least, 1), item.most, behind);
                 boolean canBeNone = item.least == 0;
-                begun[number] = canBeNone ? some | begun[number + 1] : some;
+                put(begun, number, canBeNone ? some | behind : some);
                 fresh = canBeNone ? some | fresh : some;
             }
             return fresh;
         }
 
-        private int placesBeforeItem(int item, int least, int most, int targets) {
+        private static int placesBeforeItem(int marks, int least, int most, int targets) {
             int found = 0;
             int places = targets;
             for (int times = 0; times <= most && places != 0; times++) {
                 if (times >= least) {
                     found |= places;
                 }
-                places = places >> 1 & marked[item];
+                places = places >> 1 & marks;
             }
             return found;
         }
@@ -946,12 +957,13 @@ public final class Segmentry {
 
         private int greatestTimes(int number, int place) {
             Item item = schema.itemAt(number);
+            int behind = at(begun, number + 1);
             int greatest = 0;
             for (int times = 0; times <= item.most; times++) {
-                if (times >= item.least && contains(begun[number + 1], place + times)) {
+                if (times >= item.least && contains(behind, place + times)) {
                     greatest = times;
                 }
-                if (!contains(marked[number], place + times)) {
+                if (!contains(at(marked, number), place + times)) {
                     break;
                 }
             }
@@ -977,8 +989,9 @@ public final class Segmentry {
             int with = 0;
             for (int number = entry.first; number < entry.end; number++) {
                 Item item = schema.itemAt(number);
-                reached |= placesBehindItem(number, 1, item.most, without | with);
-                int some = placesBehindItem(number, Math.max(item.least, 1), item.most, without | with);
+                int marks = at(marked, number);
+                reached |= placesBehindItem(marks, 1, item.most, without | with);
+                int some = placesBehindItem(marks, Math.max(item.least, 1), item.most, without | with);
                 boolean canBeNone = item.least == 0;
                 with = canBeNone ? some | with : some;
                 without = canBeNone ? without : 0;
@@ -986,14 +999,14 @@ public final class Segmentry {
             return with;
         }
 
-        private int placesBehindItem(int item, int least, int most, int starts) {
+        private static int placesBehindItem(int marks, int least, int most, int starts) {
             int found = 0;
             int places = starts;
             for (int times = 0; times <= most && places != 0; times++) {
                 if (times >= least) {
                     found |= places;
                 }
-                places = (places & marked[item]) << 1;
+                places = (places & marks) << 1;
             }
             return found;
         }

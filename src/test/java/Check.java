@@ -29,8 +29,8 @@ final class Check {
 
     private static void wrong(String what) {
         wrong++;
-        String[] named = NAMED.isEmpty() ? new String[] {"", ""} : NAMED.get(NAMED.size() - 1);
-        System.out.println(named[0] + ", \"" + named[1] + "\": " + what);
+        String[] named = NAMED.isEmpty() ? null : NAMED.get(NAMED.size() - 1);
+        System.out.println((named == null ? "" : named[0] + ", \"" + named[1] + "\": ") + what);
     }
 
     static void due(String what, long got, long want) {

@@ -1,91 +1,69 @@
+import java.io.IOException;
 import java.lang.reflect.Constructor;
 import java.lang.reflect.Field;
 import java.lang.reflect.Method;
 import java.lang.reflect.Modifier;
+import java.nio.file.Files;
+import java.nio.file.Path;
 import java.util.ArrayList;
-import java.util.Arrays;
 import java.util.List;
 
 /** The public face: just the document's members, with their types, and no other that can be seen. */
 final class FaceTest {
-    private static final String[] FACE = {
-        "int addItem(char, int, int) IllegalArgumentException, IllegalStateException",
-        "int addRule(int, char) IndexOutOfBoundsException, IllegalArgumentException, IllegalStateException",
-        "int addField(int, int) IndexOutOfBoundsException, IllegalArgumentException, IllegalStateException",
-        "void clear()",
-        "int closeLoop() IllegalStateException",
-        "char content(int, int, int) IllegalStateException, IndexOutOfBoundsException",
-        "int contentLength(int, int) IllegalStateException, IndexOutOfBoundsException",
-        "int control() NoSuchElementException",
-        "int discard()",
-        "int elements(int) IllegalStateException, IndexOutOfBoundsException",
-        "int faultKind(int) IndexOutOfBoundsException",
-        "int faultPlace(int) IndexOutOfBoundsException",
-        "int feed(char) IllegalArgumentException, IllegalStateException",
-        "int feedWritten() IllegalStateException",
-        "int item(int) IllegalStateException, IndexOutOfBoundsException",
-        "int items()",
-        "int length()",
-        "char letter(int) IndexOutOfBoundsException",
-        "void openLoop(int, int) IllegalArgumentException, IllegalStateException",
-        "int pass(int) IllegalStateException, IndexOutOfBoundsException",
-        "int read() IllegalStateException",
-        "int segments() IllegalStateException",
-        "void setCondition(int, int, char) IndexOutOfBoundsException, IllegalArgumentException",
-        "char tag(int) IllegalStateException, IndexOutOfBoundsException",
-        "int write() IllegalStateException",
-        "int written()",
-    };
+    private static final Path DOCUMENT = Path.of("..", "shared", "DOC.md");
+    private static final Path SOURCE = Path.of("src", "main", "java", "Segmentry.java");
+    private static final int MEMBERS = 27;
 
-    public static void main(String[] args) {
+    public static void main(String[] args) throws IOException {
         int modifiers = Segmentry.class.getModifiers();
         Check.due("the class is public and final", modifiers, Modifier.PUBLIC | Modifier.FINAL);
-        methods();
-        constructors();
-        for (Field field : Segmentry.class.getDeclaredFields()) {
-            Check.due(field + " is private", field.getModifiers() & Modifier.PRIVATE, Modifier.PRIVATE);
-        }
-        for (Class<?> inside : Segmentry.class.getDeclaredClasses()) {
-            int seen = inside.getModifiers() & (Modifier.PUBLIC | Modifier.PROTECTED);
-            Check.due(inside + " is not public", seen, 0);
-        }
+        Check.due("what it extends", Segmentry.class.getSuperclass().getName(), "java.lang.Object");
+        Check.due("the interfaces that it implements", Segmentry.class.getInterfaces().length, 0);
+        Check.due("its package", Segmentry.class.getPackageName(), "");
+        List<String> face = documentedFace();
+        Check.due("members in the document", face.size(), MEMBERS);
+        members(face);
+        parameterNames(face);
+        hidden();
         Check.end();
     }
 
-    private static void methods() {
+    /** The lines of the document's face, each without "public" and ";". */
+    private static List<String> documentedFace() throws IOException {
         List<String> face = new ArrayList<>();
-        List<String> hidden = new ArrayList<>();
-        for (Method method : Segmentry.class.getDeclaredMethods()) {
-            if (Modifier.isPrivate(method.getModifiers())) {
-                hidden.add(method.getName());
-            } else {
-                Check.due(method + " is public", method.getModifiers(), Modifier.PUBLIC);
-                face.add(told(method));
-                hidden.remove(method.getName());
+        for (String line : Files.readAllLines(DOCUMENT)) {
+            if (line.startsWith("    public ")) {
+                face.add(line.trim().replaceAll("^public |;$", "").replace("java.util.", ""));
             }
         }
-        for (String name : hidden) {
-            Check.due("public ones named " + name, face.stream().filter(f -> f.contains(" " + name + "(")).count(), 0);
+        return face;
+    }
+
+    private static void members(List<String> face) {
+        List<String> want = new ArrayList<>();
+        for (String member : face) {
+            want.add(member.replaceAll("(int|char) [a-z]+([,)])", "$1$2"));
         }
-        List<String> want = new ArrayList<>(Arrays.asList(FACE));
+        List<String> got = new ArrayList<>();
+        for (Constructor<?> constructor : Segmentry.class.getDeclaredConstructors()) {
+            Check.due(constructor + " is public", constructor.getModifiers(), Modifier.PUBLIC);
+            got.add(told("Segmentry", constructor.getParameterTypes(), constructor.getExceptionTypes()));
+        }
+        for (Method method : Segmentry.class.getDeclaredMethods()) {
+            if (!Modifier.isPrivate(method.getModifiers())) {
+                Check.due(method + " is public", method.getModifiers(), Modifier.PUBLIC);
+                String name = method.getReturnType() + " " + method.getName();
+                got.add(told(name, method.getParameterTypes(), method.getExceptionTypes()));
+            }
+        }
         want.sort(null);
-        face.sort(null);
-        Check.due("the public methods", String.join("; ", face), String.join("; ", want));
+        got.sort(null);
+        Check.due("the public members", String.join("; ", got), String.join("; ", want));
     }
 
-    private static void constructors() {
-        Constructor<?>[] all = Segmentry.class.getDeclaredConstructors();
-        Check.due("constructors", all.length, 1);
-        Check.due("the constructor is public", all[0].getModifiers(), Modifier.PUBLIC);
-        Check.due("its parameters", all[0].getParameterCount(), 0);
-    }
-
-    private static String told(Method method) {
-        StringBuilder told = new StringBuilder();
-        told.append(method.getReturnType()).append(' ').append(method.getName()).append('(');
-        told.append(names(method.getParameterTypes())).append(')');
-        String thrown = names(method.getExceptionTypes());
-        return told.append(thrown.isEmpty() ? "" : " ").append(thrown).toString();
+    private static String told(String name, Class<?>[] parameters, Class<?>[] exceptions) {
+        String thrown = names(exceptions);
+        return name + "(" + names(parameters) + ")" + (thrown.isEmpty() ? "" : " throws " + thrown);
     }
 
     private static String names(Class<?>[] types) {
@@ -94,5 +72,23 @@ final class FaceTest {
             names.add(type.getSimpleName());
         }
         return String.join(", ", names);
+    }
+
+    /** A compiled class does not keep the names of parameters, so the source is looked at. */
+    private static void parameterNames(List<String> face) throws IOException {
+        String source = Files.readString(SOURCE).replaceAll("\\s+", " ");
+        for (String member : face) {
+            Check.due("the source has " + member, "" + source.contains(" public " + member + " {"), "true");
+        }
+    }
+
+    private static void hidden() {
+        for (Field field : Segmentry.class.getDeclaredFields()) {
+            Check.due(field + " is private", field.getModifiers() & Modifier.PRIVATE, Modifier.PRIVATE);
+        }
+        for (Class<?> inside : Segmentry.class.getDeclaredClasses()) {
+            int seen = inside.getModifiers() & (Modifier.PUBLIC | Modifier.PROTECTED);
+            Check.due(inside + " is not public", seen, 0);
+        }
     }
 }
